@@ -796,14 +796,13 @@ public final class InflectionGuesser {
             exceptions.copyFrom(other.exceptions);
         }
 
-        /** Sets what an undone paradigm may have left in the place of the new one. */
+        /**
+         * Nothing needs to be reset for a new paradigm or lexeme: only a copy of a whole state makes
+         * them fewer, and it brings the untouched rows behind them along.
+         */
         int newParadigm() {
-            int paradigm = paradigmCount;
-            cellCounts[paradigm] = 0;
-            conditionKinds[paradigm] = EVERY_STEM;
-            conditionParameters[paradigm] = 0;
             paradigmCount++;
-            return paradigm;
+            return paradigmCount - 1;
         }
 
         int newCell(int paradigm, int kind, int parameter) {
@@ -814,15 +813,10 @@ public final class InflectionGuesser {
             return cell;
         }
 
-        /** Drops the exceptions of an undone lexeme too that had the number of the new one. */
         int newLexeme(long pair) {
-            int lexeme = lexemeCount;
-            lexemes[lexeme] = pair;
-            for (int cell = 0; cell < CELL_LIMIT; cell++) {
-                dropException(lexeme, cell);
-            }
+            lexemes[lexemeCount] = pair;
             lexemeCount++;
-            return lexeme;
+            return lexemeCount - 1;
         }
 
         boolean hasLexeme(long pair) {

@@ -423,6 +423,7 @@ public final class PromiseTests {
         type(x, "xx");
         refused(x, "addWord() of a 17th", STATE, x::addWord);
         due("addWord() of a word in the full list", type(x, "abc").addWord(), 2);
+        due("addWord() of the first word in it", type(x, "ab").addWord(), 0);
         type(x, "x");
         refused(x, "addWord() of one letter, full list", ARGUMENT, x::addWord);
         due("words", Checks.words(x),
@@ -501,6 +502,11 @@ public final class PromiseTests {
         x.removeLastCell(0);
         x.removeLastCell(0);
         due("longestEnding(0) without ies", x.longestEnding(0), 2);
+        for (int p = 2; p < 6; p++) {
+            addParadigm(x, "+lies");
+        }
+        due("longestEnding(0) with 6 paradigms", x.longestEnding(0), 4);
+        due("endings(0) with 6 paradigms", x.endings(0), 8);
         for (int w : new int[] {-1, 3, LEAST, MOST}) {
             refused(x, "longestEnding(" + w + ")", INDEX, () -> x.longestEnding(w));
             refused(x, "endings(" + w + ")", INDEX, () -> x.endings(w));
@@ -536,6 +542,10 @@ public final class PromiseTests {
         addParadigm(x, "e!s");
         addWords(x, "mens", "mans", "pfs", "aebs", "es");
         ranked("change", x, "0aab10 0aeb10 0aib10 0aob10 0aub10 0man10 0men10 0min10 0mon10 0mun10");
+        x = new InflectionGuesser();
+        addParadigm(x, "e!s");
+        addWords(x, "ebs");
+        ranked("change of the first letter", x, "0ab10 0eb10 0ib10 0ob10 0ub10");
     }
 
     private static void hypothesisForms() {
@@ -550,6 +560,10 @@ public final class PromiseTests {
         addParadigm(x, "+", "*abcd", "ghij>");
         addWords(x, "abcdefghij");
         ranked("a form of 15 letters is missing", x, "0abcdefghij12");
+        addCell(x, 0, "*abcd");
+        ranked("the same form of 15 letters", x, "0abcdefghij12");
+        addCell(x, 0, "*abce");
+        ranked("another form of 15 letters", x, "0abcdefghij13");
         x = new InflectionGuesser();
         addParadigm(x, "+", "ab>");
         addWords(x, "ab");
@@ -580,6 +594,17 @@ public final class PromiseTests {
         ranked("one word fewer", x, "0sofas10 0go10");
         x.undo();
         ranked("after undo", x, "0sofas10 0cats10 0go10");
+        x.save();
+        addCell(x, 0, "+s");
+        ranked("one cell more", x, "0sofas11 0cats11 0sofa11 0cat11 0go11");
+        x.restore();
+        ranked("after restore", x, "0sofas10 0cats10 0go10");
+        x.addParadigm();
+        ranked("one paradigm more", x, "0sofas10 0cats10 0go10");
+        x.removeLastCell(0);
+        ranked("no cell", x, "");
+        due("explanations(0) without hypotheses", x.explanations(0), 0);
+        due("cover() without hypotheses", x.cover(), 0);
     }
 
     private static void hypothesisOrder() {
@@ -633,6 +658,7 @@ public final class PromiseTests {
         due("explains(2, 2)", x.explains(2, 2), true);
         due("explanations(0)", x.explanations(0), 1);
         due("explanations(1)", x.explanations(1), 2);
+        due("explanations(2)", x.explanations(2), 1);
         due("attestedShare(0)", x.attestedShare(0), 2.0 / 3.0);
         due("attestedShare(2)", x.attestedShare(2), 1.0 / 3.0);
         x.removeLastCell(1);
@@ -676,6 +702,16 @@ public final class PromiseTests {
         refused(x, "accept with 10 lexemes", STATE, () -> x.accept(unused));
         refused(x, "accept(12) with 10 lexemes", INDEX, () -> x.accept(12));
         due("lexemeCount()", x.lexemeCount(), 10);
+    }
+
+    private static void acceptOfTheLowestPair() {
+        InflectionGuesser x = new InflectionGuesser();
+        addParadigm(x, "+");
+        addWords(x, "aaaaaaaaaa", "bb");
+        due("accept(1)", x.accept(1), 0);
+        due("accept(0)", x.accept(0), 1);
+        due("the lexemes", stemOf(x, 0) + stemOf(x, 1), "bbaaaaaaaaaa");
+        refused(x, "accept(0) again", STATE, () -> x.accept(0));
     }
 
     private static void newLexemeWithoutExceptions() {
@@ -783,6 +819,7 @@ public final class PromiseTests {
         due("lexeme(0, 2)", x.lexeme(0, 2), 0);
         due("setException of 14 letters", type(x, "abcdefghijklmn").setException(1, 0), 2);
         due("the form", formOf(x, 1, 0), "abcdefghijklmn");
+        due("setException of 2 letters", type(x, "fl").setException(1, 2), 2);
         due("setException anew", type(x, "flown").setException(1, 2), 2);
         due("the form", formOf(x, 1, 2), "flown");
         type(x, "in");
@@ -814,6 +851,11 @@ public final class PromiseTests {
         due("lexeme(1, 2) without the cell", x.lexeme(1, 2), 1);
         due("hasForm(1, 4) without the cell", x.hasForm(1, 4), false);
         due("lexemesOf(4) without the cell", x.lexemesOf(4), 0);
+        due("missing(1) without the cell", x.missing(1), 1);
+        refused(x, "missingCell(1, 1) without the cell", NONE, () -> x.missingCell(1, 1));
+        x.removeWord(4);
+        due("missing(1) without the cell and the word", x.missing(1), 1);
+        refused(x, "missingCell(1, 1) without the word", NONE, () -> x.missingCell(1, 1));
         refused(x, "takeForm(1, 2) without the cell", INDEX, () -> x.takeForm(1, 2));
         refused(x, "clearException(1, 2) without the cell", INDEX, () -> x.clearException(1, 2));
         type(x, "went");
@@ -940,6 +982,36 @@ public final class PromiseTests {
         refused(x, "undo() of nothing more", NONE, x::undo);
     }
 
+    /** Undo and restore bring back what a later call has written over. */
+    private static void whatWasWrittenOver() {
+        InflectionGuesser x = sample();
+        type(x, "ly").setCondition(1, 4, 0);
+        x.setCondition(0, 3, 3);
+        acceptPair(x, 0, "flies");
+        type(x, "flown").setException(2, 1);
+        String before = Checks.look(x);
+        x.save();
+        x.removeLastCell(1);
+        x.removeLastCell(1);
+        addCell(x, 1, "*abc");
+        type(x, "ab").setCondition(1, 4, 0);
+        x.setCondition(0, 3, 4);
+        type(x, "wrote").setException(2, 1);
+        x.removeWord(0);
+        addWords(x, "other");
+        for (int i = 0; i < 8; i++) {
+            x.undo();
+        }
+        due("what undo() made", Checks.look(x), before);
+        x.undo();
+        x.undo();
+        addWords(x, "dog");
+        acceptPair(x, 0, "dog");
+        due("the other lexeme", stemOf(x, 2), "dog");
+        x.restore();
+        due("what restore() made", Checks.look(x), before);
+    }
+
     private static void undoKeepsTen() {
         InflectionGuesser x = new InflectionGuesser();
         for (int w = 0; w < 13; w++) {
@@ -1048,6 +1120,7 @@ public final class PromiseTests {
         test("21, 25, many", PromiseTests::manyHypotheses);
         test("22 to 27, questions", PromiseTests::hypothesisQuestions);
         test("27", PromiseTests::accept);
+        test("27, lowest", PromiseTests::acceptOfTheLowestPair);
         test("27, 28, 40", PromiseTests::newLexemeWithoutExceptions);
         test("28", PromiseTests::cover);
         test("28, most", PromiseTests::coverTakesMostUncovered);
@@ -1059,6 +1132,7 @@ public final class PromiseTests {
         test("35, 36, 37, 39", PromiseTests::formsOfLexemes);
         test("38", PromiseTests::uncovered);
         test("40", PromiseTests::undo);
+        test("40, 42, written over", PromiseTests::whatWasWrittenOver);
         test("40, ten", PromiseTests::undoKeepsTen);
         test("40, what is remembered", PromiseTests::whatIsRemembered);
         test("41, 42", PromiseTests::saveAndRestore);
