@@ -10,10 +10,9 @@ import java.util.Set;
 import java.util.TreeSet;
 import java.util.stream.Collectors;
 
-/** The face is the document's, and the rules of LANGUAGE.md hold as far as they can be seen here. */
+/** The face is the document's, and the classes inside are as the rules of LANGUAGE.md want them. */
 public final class FaceTests {
     private static final Path DOCUMENT = Path.of("../shared/DOC.md");
-    private static final Path SOURCE = Path.of("src/main/java/InflectionGuesser.java");
     private static final Class<?> FACE = InflectionGuesser.class;
 
     private FaceTests() {
@@ -33,8 +32,6 @@ public final class FaceTests {
             checkClass(inside);
             checkNames(inside);
         }
-        Checks.part("the source");
-        checkSource(Files.readString(SOURCE));
         Checks.end();
     }
 
@@ -83,6 +80,7 @@ public final class FaceTests {
 
     private static void checkMembers() {
         Checks.due("public and final", FACE.getModifiers(), Modifier.PUBLIC | Modifier.FINAL);
+        Checks.due("the package", FACE.getPackageName(), "");
         for (Method method : FACE.getDeclaredMethods()) {
             Checks.due(method + " is public or private",
                     Modifier.isPublic(method.getModifiers()) || Modifier.isPrivate(method.getModifiers()), true);
@@ -96,13 +94,6 @@ public final class FaceTests {
         long fields = Arrays.stream(type.getDeclaredFields())
                 .filter(f -> !Modifier.isStatic(f.getModifiers())).count();
         Checks.due(type + " has at most twenty fields", fields <= 20, true);
-        for (Field field : type.getDeclaredFields()) {
-            Checks.due(field + " is final if it is static",
-                    !Modifier.isStatic(field.getModifiers()) || Modifier.isFinal(field.getModifiers()), true);
-        }
-        for (Method method : type.getDeclaredMethods()) {
-            Checks.due(method + " has at most seven parameters", method.getParameterCount() <= 7, true);
-        }
     }
 
     private static void checkNames(Class<?> inside) {
@@ -112,37 +103,5 @@ public final class FaceTests {
             boolean isOfTheFace = inside == FACE && Modifier.isPublic(method.getModifiers());
             Checks.due(method + " bears a public name", !isOfTheFace && names.contains(method.getName()), false);
         }
-    }
-
-    private static void checkSource(String source) {
-        String code = source.replaceAll("(?s)/[*].*?[*]/", "").replaceAll("//[^\n]*", "");
-        for (String refused : new String[] {"->", "::", "catch", "finally", "synchronized", "assert",
-            "Exact(", "package ", "java.io", "java.lang", "System.out", "System.nano", "System.current",
-            "Random", "String.format", ".hashCode(", ".equals(", ".toString("}) {
-            Checks.due("the source has " + refused, code.contains(refused), false);
-        }
-        long imports = code.lines().filter(l -> l.startsWith("import ")).count();
-        Checks.due("the number of imports", imports, 1L);
-        Checks.due("signs beyond 127", source.chars().anyMatch(c -> c > 127), false);
-        Checks.due("the longest method has at most sixty lines", longestMethod(source) <= 60, true);
-    }
-
-    /** A method begins with a line that ends in ") {" or in a throws clause and ends at its indent. */
-    private static int longestMethod(String source) {
-        String[] lines = source.split("\n");
-        int longest = 0;
-        for (int start = 0; start < lines.length; start++) {
-            String line = lines[start];
-            String indent = line.substring(0, line.length() - line.stripLeading().length());
-            boolean member = indent.length() == 4 || indent.length() == 8;
-            if (member && line.endsWith("{") && line.contains("(") && !line.contains(" if (")) {
-                int end = start;
-                while (end < lines.length && !lines[end].equals(indent + "}")) {
-                    end++;
-                }
-                longest = Math.max(longest, end - start + 1);
-            }
-        }
-        return longest;
     }
 }
